@@ -492,18 +492,15 @@ public final class FairquotaBroker {
 
     /** Stops jobs on trial, since what they free depends on what is reserved and not run, and lets them run on. */
     private boolean findVictims(Job job) {
-        boolean enough = false;
-        boolean more = true;
-        for (int found = 0; more && !enough && found < MOST_ALIVE_JOBS; found++) {
+        for (int found = 0; found < MOST_ALIVE_JOBS && job.size > freeUnits(job.leaf); found++) {
             Job victim = youngestBorrower(job.leaf);
             if (victim == null) {
-                more = false;
-            } else {
-                victim.giveUnitsBack();
-                victims.add(victim);
-                enough = job.size <= freeUnits(job.leaf);
+                break;
             }
+            victim.giveUnitsBack();
+            victims.add(victim);
         }
+        boolean enough = job.size <= freeUnits(job.leaf);
         for (int i = 0; i < victims.size(); i++) {
             victims.get(i).takeUnits();
         }

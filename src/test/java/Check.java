@@ -31,7 +31,15 @@ final class Check {
         try {
             return call.answer();
         } catch (RuntimeException e) {
-            return "throws." + e.getClass().getSimpleName();
+            return (thrownByCode(e) ? "throws." : "machine.") + e.getClass().getSimpleName();
         }
+    }
+
+    /** What the library throws, for an index that was not looked at, has its own place on top. */
+    private static boolean thrownByCode(RuntimeException e) {
+        StackTraceElement[] places = e.getStackTrace();
+        if (places.length == 0) return false;
+        String top = places[0].getClassName();
+        return top.startsWith("FairquotaBroker") || top.equals("NaiveBroker");
     }
 }

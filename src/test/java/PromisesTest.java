@@ -246,6 +246,15 @@ public final class PromisesTest {
         x.pass(1);
         is("10 after an end", x.submit(1, 1, 1), 41);
         is("10 jobs", x.jobs(), 42);
+
+        FairquotaBroker y = leaves(1, 1);
+        y.submit(1, 60, 9);
+        y.submit(2, 10, 9);
+        y.submit(2, 11, 9);
+        is("10 one more than is idle", states(y), "wrw");
+        y.cancel(2);
+        y.submit(2, 10, 9);
+        is("10 what is idle is borrowed above the due", states(y), "wrcr");
     }
 
     private static void promise11() {
@@ -268,6 +277,9 @@ public final class PromisesTest {
         x.submit(0, 20, 5);
         is("11 makes room", x.cancel(3), 20);
         is("11 starts at once", states(x), "ccecr");
+        submitTimes(x, 3, 0, 8, 5);
+        x.cancel(4);
+        is("11 all that can start do", states(x), "cceccrrw");
     }
 
     private static void promise12() {
@@ -362,6 +374,15 @@ public final class PromisesTest {
         y.cancel(2);
         is("17 all that it needs, and no more", states(y), "rwcr");
         is("17 stopped by one unit", y.stops(1), 1);
+
+        FairquotaBroker z = leaves(1, 1);
+        submitTimes(z, 4, 1, 5, 50);
+        z.setLimit(2, 0);
+        z.submit(2, 5, 9);
+        z.submit(2, 10, 9);
+        z.setLimit(2, 500);
+        is("17 room enough to the unit", states(z), "rrrwrw");
+        is("17 no other one, though its leaf runs more than its due", z.stops(2), 0);
     }
 
     private static void promise18() {
@@ -715,5 +736,31 @@ public final class PromisesTest {
         String before = states(x) + line(x);
         x.isFair();
         is("32 asking changes nothing", states(x) + line(x), before);
+
+        FairquotaBroker y = leaves(1, 1);
+        y.submit(1, 20, 9);
+        y.submit(2, 15, 9);
+        is("32 all units run", y.isFair(), true);
+        forceCapacity(y, 19);
+        is("32 the root runs more than the capacity", y.isFair(), false);
+        forceCapacity(y, 29);
+        is("32 a share of 14 is too little to reclaim 15", y.isFair(), true);
+        forceCapacity(y, 30);
+        is("32 a first job can reclaim", y.isFair(), false);
+        forceCapacity(y, 35);
+        is("32 a first job can start", y.isFair(), false);
+        forceCapacity(y, 20);
+        is("32 fair again", y.isFair(), true);
+    }
+
+    /** No call leaves a broker unfair, so only this shows that isFair can answer so. */
+    private static void forceCapacity(FairquotaBroker x, int units) {
+        try {
+            java.lang.reflect.Field capacity = FairquotaBroker.class.getDeclaredField("capacity");
+            capacity.setAccessible(true);
+            capacity.setInt(x, units);
+        } catch (ReflectiveOperationException e) {
+            throw new IllegalStateException(e);
+        }
     }
 }
