@@ -7,6 +7,8 @@ public final class ModelTest {
     private long seed = 20261119;
     private FairquotaBroker got;
     private NaiveBroker due;
+    /** How many calls the object has had: what more than 512 would answer is free. */
+    private int calls;
     /** What the run is given to: small or large numbers, flat or deep trees. */
     private int mostSize;
     private int mostCapacity;
@@ -26,17 +28,20 @@ public final class ModelTest {
     private void run(int run) {
         got = new FairquotaBroker();
         due = new NaiveBroker();
+        calls = 0;
         mostSize = new int[] {4, 8, 15, 60}[below(4)];
         mostCapacity = new int[] {10, 20, 60, 200}[below(4)];
         deep = below(2) == 0;
         int grown = below(10);
         for (int i = 0; i < grown; i++) addTeam(run);
-        for (int i = grown; i < CALLS; i++) {
+        for (int i = 0; i < CALLS && calls < CALLS; i++) {
             if (below(2) == 0) change(run); else ask(run);
         }
     }
 
     private void same(int run, String what, Check.Call answer, Check.Call model) {
+        if (calls >= CALLS) return;
+        calls++;
         check.is("run " + run + ": " + what, Check.answerOf(answer), Check.answerOf(model));
     }
 
@@ -147,7 +152,10 @@ public final class ModelTest {
         else if (kind == 3) same(run, "stops(" + job + ")", () -> got.stops(job), () -> due.stops(job));
         else if (kind < 6) same(run, "inLine(" + rank + ")", () -> got.inLine(rank), () -> due.inLine(rank));
         else if (kind == 6) same(run, "meanStops()", () -> got.meanStops(), () -> due.meanStops());
-        else same(run, "jobs() and tick()", () -> got.jobs() + got.tick(), () -> due.jobs() + due.tick());
+        else {
+            same(run, "jobs()", () -> got.jobs(), () -> due.jobs());
+            same(run, "tick()", () -> got.tick(), () -> due.tick());
+        }
     }
 
     private void askTeams(int run, int kind) {
@@ -166,7 +174,9 @@ public final class ModelTest {
         else if (kind == 18) same(run, "usedShare()", () -> got.usedShare(), () -> due.usedShare());
         else if (kind == 19) same(run, "isFair()", () -> got.isFair(), () -> due.isFair());
         else if (kind == 20) same(run, "parentOf(" + any + ")", () -> got.parentOf(any), () -> due.parentOf(any));
-        else same(run, "children(" + any + ") and teams()",
-                () -> got.children(any) * 20 + got.teams(), () -> due.children(any) * 20 + due.teams());
+        else {
+            same(run, "children(" + any + ")", () -> got.children(any), () -> due.children(any));
+            same(run, "teams()", () -> got.teams(), () -> due.teams());
+        }
     }
 }

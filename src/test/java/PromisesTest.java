@@ -1,14 +1,5 @@
-import java.util.NoSuchElementException;
-
 /** Each promise by its words: ordinary inputs, the edges that the document names, and wrong inputs. */
-public final class PromisesTest {
-    private static final Class<IndexOutOfBoundsException> OUT = IndexOutOfBoundsException.class;
-    private static final Class<IllegalArgumentException> ARGUMENT = IllegalArgumentException.class;
-    private static final Class<IllegalStateException> STATE = IllegalStateException.class;
-    private static final Class<UnsupportedOperationException> UNSUPPORTED = UnsupportedOperationException.class;
-    private static final Class<NoSuchElementException> MISSING = NoSuchElementException.class;
-    private static final Class<ArithmeticException> ARITHMETIC = ArithmeticException.class;
-
+public final class PromisesTest extends BrokerTests {
     private static final Check CHECK = new Check();
 
     public static void main(String[] args) {
@@ -49,33 +40,6 @@ public final class PromisesTest {
 
     private static void refuses(String what, Class<? extends RuntimeException> kind, Check.Call call) {
         CHECK.refuses(what, kind, call);
-    }
-
-    /** A root with one leaf for each weight. */
-    private static FairquotaBroker leaves(int... weights) {
-        FairquotaBroker x = new FairquotaBroker();
-        for (int weight : weights) x.addTeam(0, weight);
-        return x;
-    }
-
-    private static void submitTimes(FairquotaBroker x, int times, int team, int size, int ticks) {
-        for (int i = 0; i < times; i++) x.submit(team, size, ticks);
-    }
-
-    private static String states(FairquotaBroker x) {
-        StringBuilder text = new StringBuilder();
-        for (int job = 0; job < x.jobs(); job++) text.append(x.stateOf(job));
-        return text.toString();
-    }
-
-    private static String line(FairquotaBroker x) {
-        StringBuilder text = new StringBuilder();
-        for (int rank = 0; rank < x.teams(); rank++) {
-            int place = rank;
-            Object leaf = Check.answerOf(() -> x.inLine(place));
-            text.append(leaf instanceof Integer ? leaf.toString() : "");
-        }
-        return text.toString();
     }
 
     private static void promise1() {
@@ -736,31 +700,5 @@ public final class PromisesTest {
         String before = states(x) + line(x);
         x.isFair();
         is("32 asking changes nothing", states(x) + line(x), before);
-
-        FairquotaBroker y = leaves(1, 1);
-        y.submit(1, 20, 9);
-        y.submit(2, 15, 9);
-        is("32 all units run", y.isFair(), true);
-        forceCapacity(y, 19);
-        is("32 the root runs more than the capacity", y.isFair(), false);
-        forceCapacity(y, 29);
-        is("32 a share of 14 is too little to reclaim 15", y.isFair(), true);
-        forceCapacity(y, 30);
-        is("32 a first job can reclaim", y.isFair(), false);
-        forceCapacity(y, 35);
-        is("32 a first job can start", y.isFair(), false);
-        forceCapacity(y, 20);
-        is("32 fair again", y.isFair(), true);
-    }
-
-    /** No call leaves a broker unfair, so only this shows that isFair can answer so. */
-    private static void forceCapacity(FairquotaBroker x, int units) {
-        try {
-            java.lang.reflect.Field capacity = FairquotaBroker.class.getDeclaredField("capacity");
-            capacity.setAccessible(true);
-            capacity.setInt(x, units);
-        } catch (ReflectiveOperationException e) {
-            throw new IllegalStateException(e);
-        }
     }
 }

@@ -77,12 +77,19 @@ public final class RulesTest {
             boolean changing = Modifier.isStatic(f.getModifiers()) && !Modifier.isFinal(f.getModifiers());
             check.is(f.getName() + " is static state", changing, false);
         }
+        check.is("at most twelve classes", program.getDeclaredClasses().length < 12, true);
+        check.is("at most twenty fields", fieldsOf(program) <= 20, true);
         for (Class<?> inside : program.getDeclaredClasses()) {
+            check.is(inside.getName() + " has at most twenty fields", fieldsOf(inside) <= 20, true);
             check.is(inside.getName() + " is static", Modifier.isStatic(inside.getModifiers()), true);
             for (Method m : inside.getDeclaredMethods()) {
                 check.is(m.getName() + " names a call too", faceNames.contains(m.getName()), false);
             }
         }
+    }
+
+    private static long fieldsOf(Class<?> program) {
+        return Arrays.stream(program.getDeclaredFields()).filter(f -> !Modifier.isStatic(f.getModifiers())).count();
     }
 
     private static void imports(Check check, String text) {
