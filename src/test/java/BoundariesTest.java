@@ -4,6 +4,7 @@ import java.io.IOException;
 public final class BoundariesTest {
     public static void main(String[] args) throws IOException {
         Sentences sentences = new Sentences();
+        new OverviewBoundaries(sentences).checkAll();
         new TermsBoundaries(sentences).checkAll();
         new ServingBoundaries(sentences).checkAll();
         new RefusalBoundaries(sentences).checkAll();

@@ -8,7 +8,8 @@ import java.util.regex.Pattern;
 
 /**
  * Tells with each check which sentence of the document it is about, sees that the sentence stands
- * there, and in the end that no sentence of the terms and no clause of a promise was left out.
+ * there, and in the end that no sentence of the overview and the terms and no clause of a promise
+ * was left out.
  */
 final class Sentences {
     private static final Path DOCUMENT = Path.of("../shared/DOC.md");
@@ -48,11 +49,13 @@ final class Sentences {
 
     void end(String name) {
         closeHeading();
+        check.is("the overview is read", sections.containsKey("What it is"), true);
+        check.is("the terms are read", sections.containsKey("Terms"), true);
         check.is("the first promise is read", sections.containsKey("Promise 1"), true);
         check.is("the last promise is read", sections.containsKey("Promise 32"), true);
         for (String section : sections.keySet()) {
-            if (section.equals("Terms")) {
-                for (String sentence : termsOf(sections.get(section))) requireQuoted(section, sentence);
+            if (section.equals("What it is") || section.equals("Terms")) {
+                for (String sentence : sentencesOf(section, sections.get(section))) requireQuoted(section, sentence);
             } else if (section.startsWith("Promise ")) {
                 for (String clause : clausesOf(sections.get(section))) requireQuoted(section, clause);
             }
@@ -77,10 +80,10 @@ final class Sentences {
         return text.replaceAll("\\s+", " ");
     }
 
-    /** The sentences of the terms, without the one or two words ahead of each paragraph. */
-    private static TreeSet<String> termsOf(String section) {
+    /** Without the one or two words ahead of a paragraph, and without the list of calls behind the terms. */
+    private static TreeSet<String> sentencesOf(String title, String section) {
         TreeSet<String> found = new TreeSet<>();
-        String text = plain(section.substring("Terms".length(), section.indexOf("Ahead of the calls"))).trim();
+        String text = plain(section.substring(title.length())).replaceFirst("Ahead of the calls.*", "").trim();
         for (String sentence : text.split("(?<=\\.) (?=[A-Z])")) {
             if (sentence.split(" ").length > 2) found.add(sentence);
         }

@@ -8,7 +8,6 @@ final class TermsBoundaries extends Boundaries {
 
     @Override
     void checkAll() {
-        calls();
         overview();
         teams();
         jobs();
@@ -21,31 +20,6 @@ final class TermsBoundaries extends Boundaries {
         free();
         use();
         lines();
-    }
-
-    private void calls() {
-        about("What it is", "An object is used for at most 512 calls after it has been made");
-        FairquotaBroker x = new FairquotaBroker();
-        for (int call = 1; call < 511; call += 2) {
-            x.submit(0, 1, 1);
-            x.pass(1);
-        }
-        is("the 511th call", x.submit(0, 1, 1), 255);
-        is("the 512th call", x.pass(1), 1);
-
-        FairquotaBroker many = new FairquotaBroker();
-        int calls = 0;
-        for (int round = 0; round < 12; round++) {
-            submitTimes(many, 40, 0, 1, 1);
-            many.pass(20);
-            calls += 41;
-        }
-        for (; calls < 511; calls++) many.submit(0, 1, 1);
-        is("the most jobs that 512 calls can submit", many.submit(0, 1, 1), 499);
-
-        FairquotaBroker late = new FairquotaBroker();
-        for (int call = 1; call <= 511; call++) late.pass(20);
-        is("the last tick that can be asked for", late.tick(), 10220);
     }
 
     private void overview() {
